@@ -4,6 +4,7 @@ public final class DangerTest {
         twoThreadsInOppositeOrder();
         oneThreadInBothOrders();
         sameOrderIsSafe();
+        sameOrderOfAnyThreeSitesIsSafe();
         ringOfFourThreads();
         stepsAtAnyDistance();
         regionsBesideEachOtherGiveNoStep();
@@ -11,6 +12,7 @@ public final class DangerTest {
         theSecondThreadMayStandAside();
         sitesBeforeAndBehindACircle();
         circlesWithoutCommonSites();
+        theSameThreadsInTwoCircles();
         circlesThatShareASite();
         aSiteWithItself();
         onceTakesOnlyTheStepToItself();
@@ -60,6 +62,23 @@ public final class DangerTest {
         step(x, 1, 2, 3);
         step(x, 2, 2, 3);
         Due.is("the same order in three threads", x.danger(), 0);
+    }
+
+    private static void sameOrderOfAnyThreeSitesIsSafe() {
+        for (int order = 0; order < 8 * 8 * 8; order++) {
+            int first = order / 64;
+            int second = order / 8 % 8;
+            int third = order % 8;
+            if (first != second && second != third && third != first) {
+                RaceFinder x = withSites();
+                for (int thread = 0; thread < 4; thread++) {
+                    int outer = x.region(thread, first, -1);
+                    int middle = x.region(thread, second, outer);
+                    x.region(thread, third, middle);
+                }
+                Due.is(first + "-" + second + "-" + third + " in each thread", x.danger(), 0);
+            }
+        }
     }
 
     private static void ringOfFourThreads() {
@@ -147,6 +166,16 @@ public final class DangerTest {
         Due.is("a way from one to the other", x.danger(), 0);
         step(x, 2, 3, 0);
         Due.is("and a way back", x.danger(), 15);
+    }
+
+    private static void theSameThreadsInTwoCircles() {
+        RaceFinder x = withSites();
+        step(x, 0, 0, 1);
+        step(x, 1, 1, 0);
+        Due.is("two threads in one circle", x.danger(), 3);
+        step(x, 0, 6, 7);
+        step(x, 1, 7, 6);
+        Due.is("and in another one", x.danger(), 3 | 192);
     }
 
     private static void circlesThatShareASite() {

@@ -23,6 +23,9 @@ public final class StatementsTest {
         storeAddsAndNeverReplaces();
         storeRefusesWrongNumbers();
         longChainAgainstTheOrder();
+        copiesBesideAnIdleOne();
+        loadsBesideAnIdleOne();
+        storesBesideAnIdleOne();
         pointsToRefusesWrongNumbers();
         holdsRefusesWrongNumbers();
         Due.end();
@@ -278,6 +281,46 @@ public final class StatementsTest {
         }
         Due.is("chain: holds(4, 0)", x.holds(4, 0), 16);
         Due.is("chain: holds(4, 1)", x.holds(4, 1), 16);
+    }
+
+    // A statement that has nothing to add must not hide that another one had.
+    private static void copiesBesideAnIdleOne() {
+        RaceFinder x = new RaceFinder();
+        x.copy(1, 2);
+        x.copy(2, 3);
+        x.copy(3, 4);
+        x.copy(0, 11);
+        x.copy(11, 10);
+        Due.is("alloc(4, 6)", x.alloc(4, 6), 1);
+        Due.is("over three copies beside idle ones", x.pointsTo(1), 1 << 6);
+        Due.is("the idle one", x.pointsTo(11), 0);
+    }
+
+    private static void loadsBesideAnIdleOne() {
+        RaceFinder x = new RaceFinder();
+        x.alloc(0, 0);
+        x.alloc(1, 5);
+        x.store(0, 0, 1);
+        x.copy(3, 2);
+        x.load(2, 4, 0);
+        x.load(11, 10, 1);
+        Due.is("copy(4, 0)", x.copy(4, 0), 1);
+        Due.is("a load beside an idle one", x.pointsTo(2), 1 << 5);
+        Due.is("a copy of what was loaded", x.pointsTo(3), 1 << 5);
+        Due.is("the idle one", x.pointsTo(11), 0);
+    }
+
+    private static void storesBesideAnIdleOne() {
+        RaceFinder x = new RaceFinder();
+        x.alloc(0, 0);
+        x.load(2, 0, 0);
+        x.store(0, 0, 1);
+        x.alloc(3, 7);
+        x.store(3, 1, 4);
+        Due.is("alloc(1, 5)", x.alloc(1, 5), 1);
+        Due.is("a store beside an idle one", x.holds(0, 0), 1 << 5);
+        Due.is("a load of what was stored", x.pointsTo(2), 1 << 5);
+        Due.is("the idle one", x.holds(7, 1), 0);
     }
 
     private static void pointsToRefusesWrongNumbers() {
